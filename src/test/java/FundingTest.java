@@ -11,8 +11,10 @@ public final class FundingTest {
         pool();
         bestSum();
         bestSumOfMany();
+        bestSumOfAll();
         lineFor();
         lineForAboveAll();
+        lineForZero();
         lineForIsNotMonotonic();
         wrongArguments();
         CHECK.end();
@@ -149,6 +151,31 @@ public final class FundingTest {
         CHECK.same("the nine cheapest of sixteen", x.bestSum(0), 450000);
     }
 
+    /** Requests that grow with the scores, so that no choice of proposals can be left aside for another one. */
+    private static void bestSumOfAll() {
+        int[] scores = {3, 7, 12, 20, 33, 47, 66, 95};
+        int[] requests = new int[16];
+        int sum = 0;
+        GrantAllocation x = null;
+        for (int times = 0; times < 2; times++) {
+            StringBuilder text = new StringBuilder("panel 100000;reviews 1;" + "reviewer 0 1 8 topics 0;".repeat(2));
+            for (int p = 0; p < 16; p++) {
+                text.append("proposal 0 2 0 ").append(requests[p] + 1).append(';');
+            }
+            x = Check.loaded(text.toString());
+            for (int p = 0; p < 16; p++) {
+                x.assign(p & 1, p);
+                x.setScore(p & 1, p, scores[p >> 1]);
+            }
+            sum = 0;
+            for (int p = 0; p < 16; p++) {
+                requests[p] = x.normalized(p) / 12;
+                sum += x.normalized(p);
+            }
+        }
+        CHECK.same("all sixteen", x.bestSum(0), sum);
+    }
+
     private static void lineFor() {
         GrantAllocation x = five("panel 250;line 5;", "120");
         int[][] due = {{83333, 50000, 33333, -1}, {83333, 50000, 33333, -1}, {83333, 66666, -1, -1}};
@@ -186,6 +213,19 @@ public final class FundingTest {
         x.setLine(0);
         CHECK.same("a negative score is not eligible with line 0", x.funded(0), 0b1111110111);
         CHECK.same("nor for bestSum", x.bestSum(0), 549999);
+    }
+
+    private static void lineForZero() {
+        GrantAllocation x = Check.loaded("panel 1000;reviewer 0 1 10 topics 0;" + "proposal 0 2 0 1;".repeat(5));
+        for (int p = 0; p < 5; p++) {
+            x.assign(0, p);
+            x.setScore(0, p, p == 2 ? 1 : 9);
+        }
+        CHECK.same("a normalized score of 0", x.normalized(2), 0);
+        CHECK.same("is eligible with line 0", x.funded(0), 31);
+        CHECK.same("the least line", x.lineFor(0, 5), 0);
+        x.setLine(1);
+        CHECK.same("is not eligible with line 1", x.funded(0), 27);
     }
 
     /** A lower line can fund fewer: what panel 1 keeps by then is missing in the pool. */

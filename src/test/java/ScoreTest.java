@@ -147,6 +147,8 @@ public final class ScoreTest {
         CHECK.same("two scores", x.disagreement(0), 10.0);
         score(x, 2, 50);
         CHECK.same("three scores", x.disagreement(0), 80.0 / 3.0);
+        x.setScore(1, 0, 5);
+        CHECK.same("in no order", x.disagreement(0), 90.0 / 3.0);
         x.setScore(0, 0, 50);
         x.setScore(1, 0, 50);
         CHECK.same("equal scores", x.disagreement(0), 0.0);

@@ -86,6 +86,10 @@ public final class TextTest {
         x.truncate(9);
         x.load();
         CHECK.same("the budget that was cut", x.left(0, 0), 12);
+        Check.type(x, "panel 512;line 3;");
+        x.truncate(7);
+        CHECK.fails("a number that was cut", IllegalArgumentException.class, () -> x.load());
+        CHECK.same("what was cut is no part of the number", x.errorPosition(), 7);
         Check.type(x, "panel 1;");
         CHECK.same("truncate to 0", x.truncate(0), 0);
         x.load();
@@ -112,6 +116,14 @@ public final class TextTest {
         Check.type(x, PANEL + REVIEWER + PROPOSAL);
         x.load();
         CHECK.same("there are no reviews", x.count(3), 0);
+        Check.type(x, PANEL + REVIEWER + PROPOSAL + PROPOSAL + "conflict 0 0;conflict 0 1;conflict 0 1;");
+        x.load();
+        CHECK.same("conflicts of one reviewer", x.count(5), 2);
+        for (int times = 0; times < 2; times++) {
+            Check.type(x, PANEL + REVIEWER + PROPOSAL + PROPOSAL);
+            x.load();
+            CHECK.same("no conflict of an earlier text", x.count(5), 0);
+        }
         x.load();
         CHECK.same("an empty text", x.count(0) + x.count(1) + x.count(2), 0);
     }
@@ -162,7 +174,8 @@ public final class TextTest {
 
     private static void wrongTokens() {
         for (String marked : new String[] {
-            "^;", "^5;", "^x;", "^panels 5;", "^pane 5;", "^pAnel 5;", "^Panel 5;", "^topics 5;", "^least 5;", "^,",
+            "^;", "^5;", "^fanel 5;", "^panez 5;", "^panelz 5;", "^apanel 5;", "^rine 5;", "^`", "^{",
+            "^x;", "^panels 5;", "^pane 5;", "^pAnel 5;", "^Panel 5;", "^topics 5;", "^least 5;", "^,",
             "panel^", "panel ^", "panel 5^", "panel 5 ^", "panel 5 \n^", "panel^;", "panel 5^,", "panel 5 ^6;",
             "panel ^x;", "panel ^-5;", "panel ^0000005;", "panel ^1000000;", "panel ^12345678901234567890;",
             "panel^\t5;", "panel 5;^;", "panel 5; panel5^x;", "panel ^panel 5;", "panel 5 ^panel 5;",
