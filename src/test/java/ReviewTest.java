@@ -15,6 +15,7 @@ public final class ReviewTest {
         mostReviews();
         bestMatchSum();
         exchanges();
+        longestExchange();
         CHECK.end();
     }
 
@@ -241,5 +242,26 @@ public final class ReviewTest {
         x.declare(0, 0);
         CHECK.same("chain moved by one", x.mostReviews(0), 7);
         CHECK.same("chain sum moved by one", x.bestMatchSum(0), 7);
+    }
+
+    /** Each proposal but 0 would rather have the reviewer before its own; proposal 0 then makes all twelve change. */
+    private static void longestExchange() {
+        StringBuilder text = new StringBuilder("panel 1;reviews 1;");
+        for (int i = 0; i < 12; i++) {
+            text.append("reviewer 0 0 ").append(i < 11 ? 1 : 2).append(" topics ").append(i % 8).append(';');
+        }
+        for (int i = 0; i < 12; i++) {
+            text.append("proposal 0 1 ").append((i + 7) % 8).append(" 1;");
+        }
+        GrantAllocation x = Check.loaded(text.toString());
+        for (int p = 0; p < 12; p++) {
+            for (int r = 0; r < 12; r++) {
+                if (r != p && r != p - 1) {
+                    x.declare(r, p);
+                }
+            }
+        }
+        CHECK.same("twelve reviewers change", x.mostReviews(0), 12);
+        CHECK.same("... and match by 1, but for 0 and 8", x.bestMatchSum(0), 10);
     }
 }
