@@ -189,7 +189,7 @@ public final class TextTest {
             "panel 5;reviewer 0 1 2 topics 3;proposal 0 1 2 3;conflict 0^;",
             "panel 5;reviewer 0 1 2 topics 3;proposal 0 1 2 3;conflict 0 0 ^0;",
             "panel 1;panel 1;panel 1;panel 1;line ^panel 1;"}) {
-            bad(marked, 1);
+            CHECK.bad(marked, 1);
         }
     }
 
@@ -207,7 +207,7 @@ public final class TextTest {
             "panel 5;proposal 0 1 2 3;conflict ^0 0;reviewer 0 1 2 topics 3;",
             "panel 5;reviewer 0 1 2 topics 3;proposal 0 1 2 3;conflict 0 ^1;",
             "panel 5;reviewer 0 1 2 topics 3;proposal 0 1 2 3;conflict ^1 0;"}) {
-            bad(marked, 2);
+            CHECK.bad(marked, 2);
         }
     }
 
@@ -215,23 +215,13 @@ public final class TextTest {
         String panels = "panel 1;".repeat(4);
         String reviewers = "panel 1;" + "reviewer 0 1 2 topics 3;".repeat(12);
         String proposals = "panel 1;" + "proposal 0 1 2 3;".repeat(16);
-        bad(panels + "^panel 1;", 3);
-        bad(panels + "^panel", 3);
-        bad(panels + "^panel x", 3);
-        bad(reviewers + " ^reviewer 9 9 9", 3);
-        bad(proposals + "\n^proposal 9", 3);
-        bad(panels + "^panela 1;", 1);
+        CHECK.bad(panels + "^panel 1;", 3);
+        CHECK.bad(panels + "^panel", 3);
+        CHECK.bad(panels + "^panel x", 3);
+        CHECK.bad(reviewers + " ^reviewer 9 9 9", 3);
+        CHECK.bad(proposals + "\n^proposal 9", 3);
+        CHECK.bad(panels + "^panela 1;", 1);
         good(reviewers + proposals.substring(8), 1);
-    }
-
-    /** The mark ^ stands before the position of the error. */
-    private static void bad(String marked, int code) {
-        GrantAllocation x = new GrantAllocation();
-        Check.type(x, marked.replace("^", ""));
-        CHECK.fails("load of " + marked, IllegalArgumentException.class, () -> x.load());
-        CHECK.same("errorCode of " + marked, x.errorCode(), code);
-        CHECK.same("errorPosition of " + marked, x.errorPosition(), marked.indexOf('^'));
-        CHECK.same("panels of " + marked, x.count(0), 0);
     }
 
     private static void latestError() {
