@@ -310,12 +310,27 @@ public final class ChangeEdgesTest {
         x.undo();
         CHECK.same("after undo it was not granted before", x.appeal(1, 0), true);
         CHECK.same("one", x.count(6), 1);
+        appealOfEachGrantedBefore();
         // After loading, too.
         Check.type(x, "panel 1;reviewer 0 1 9 topics 0;reviewer 0 1 9 topics 0;proposal 0 2 0 1;");
         x.load();
         Check.score(x, 0, 0, 1);
         Check.score(x, 1, 0, 100);
         CHECK.same("after loading it was not granted before", x.appeal(1, 0), true);
+    }
+
+    private static void appealOfEachGrantedBefore() {
+        GrantAllocation x = Check.loaded("panel 1;reviews 3;" + "reviewer 0 1 10 topics 0;".repeat(12)
+                + "proposal 0 2 0 1;".repeat(16));
+        x.assignAll(0);
+        for (int p = 0; p < 16; p++) {
+            int proposal = p;
+            x.setScore(x.reviewerOf(p, 0), p, 1);
+            x.setScore(x.reviewerOf(p, 1), p, 100);
+            x.setScore(x.reviewerOf(p, 2), p, 50);
+            CHECK.same("the first of " + p, x.appeal(x.reviewerOf(p, 0), p), true);
+            CHECK.fails("the second of " + p, IllegalStateException.class, () -> x.appeal(x.reviewerOf(proposal, 0), proposal));
+        }
     }
 
     // ---- promise 35

@@ -303,6 +303,9 @@ public final class FundingEdgesTest {
         CHECK.same("one less", three("panel 59;", "10", "20", "30").bestSum(0), 130000);
         CHECK.same("only one of the three", three("panel 30;", "30", "30", "30").bestSum(0), 80000);
         CHECK.same("two that are more than the first", three("panel 30;", "30", "15", "15").bestSum(0), 80000);
+        CHECK.same("the second alone", three("panel 30;", "31", "30", "30").bestSum(0), 50000);
+        CHECK.same("the third alone", three("panel 30;", "31", "31", "30").bestSum(0), 20000);
+        CHECK.same("the second and the third", three("panel 30;", "31", "15", "15").bestSum(0), 70000);
         CHECK.same("the first and the last", three("panel 30;", "15", "16", "15").bestSum(0), 100000);
         CHECK.same("no pool", three("panel 29;pool 1000;", "30", "30", "29").bestSum(0), 20000);
         GrantAllocation x = three("panel 60;", "10", "20", "30");

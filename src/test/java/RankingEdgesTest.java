@@ -103,6 +103,7 @@ public final class RankingEdgesTest {
         secondFirst("the least score may be one of them", tied(of(1, 2), of(80), of(80, 80)), 2);
         secondFirst("four and three", tied(of(1, 2), of(90, 100, 100), of(90, 90, 90, 90)), 2);
         secondFirst("100 counts", tied(of(1, 2), of(60, 79, 79), of(60, 100)), 2);
+        secondFirst("79 does not count against it", tied(of(2, 1), of(60, 80), of(60, 79, 79, 80)), 3);
         GrantAllocation x = tied(of(1, 1), of(60, 80), of(60, 100));
         CHECK.same("81 to 100 count no more than 80", x.tieRound(0, 1), 4);
     }

@@ -419,6 +419,16 @@ public final class ReviewEdgesTest {
         CHECK.same("present", x.matchSum(0), 2);
         CHECK.same("best", x.bestMatchSum(0), 4);
 
+        // Reviewer 0 does best for both (2 and 1), but can take one only.
+        GrantAllocation z = Check.loaded("panel 1;reviews 1;reviewer 0 1 1 topics 2 4;reviewer 0 1 1 topics 3;"
+                + "reviewer 0 1 1 topics 7;proposal 0 2 2 1;proposal 0 2 5 1;");
+        CHECK.same("proposal 0 takes it: 2 + 0", z.bestMatchSum(0), 2);
+        z.declare(2, 1);
+        z.declare(1, 1);
+        CHECK.same("proposal 1 has to take it, reviewer 1 takes proposal 0: 1 + 1", z.bestMatchSum(0), 2);
+        z.declare(1, 0);
+        CHECK.same("reviewer 2 takes proposal 0: 0 + 1", z.bestMatchSum(0), 1);
+
         CHECK.sentence("18: and there had to be as many reviews as mostReviews() says");
         // The one review of match 2 would leave proposal 1 without; two reviews have matches 0 and 1.
         GrantAllocation y = Check.loaded("panel 1;reviews 1;reviewer 0 1 1 topics 4;reviewer 0 2 1 topics 0;"

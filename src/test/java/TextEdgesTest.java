@@ -188,6 +188,7 @@ public final class TextEdgesTest {
         y.load();
         CHECK.same("the empty text replaces everything, too", Snapshot.of(y), Snapshot.of(new GrantAllocation()));
         CHECK.fails("undo", IllegalStateException.class, () -> y.undo());
+        replacedAfterSeveralTexts();
         GrantAllocation z = used();
         for (int times = 0; times < 3; times++) {
             Check.type(z, "panel 5;reviews 1;reviewer 0 1 2 topics 3;reviewer 0 3 2 topics 7;proposal 0 2 3 30;");
@@ -195,6 +196,28 @@ public final class TextEdgesTest {
             CHECK.same("the same text again: conflicts and appeals", z.count(5) + z.count(6), 0);
             CHECK.same("the same text again: one review per proposal", z.assignAll(0), 1);
             z.declare(1, 0);
+        }
+    }
+
+    /** Nothing of any earlier text stays, were it loaded or refused. */
+    private static void replacedAfterSeveralTexts() {
+        String rich = "reviews 4;line 11;pool 13;limit 0;" + FULL + "conflict 0 0;conflict 11 15;";
+        String poor = "panel 5;" + "reviewer 0 1 2 topics 3;".repeat(3) + "proposal 0 2 3 30;";
+        for (int times = 1; times <= 4; times++) {
+            GrantAllocation x = new GrantAllocation();
+            for (int n = 0; n < times; n++) {
+                Check.type(x, rich + (n == 2 ? "x" : ""));
+                Check.answer(() -> x.load());
+            }
+            Check.type(x, poor);
+            CHECK.same("load after " + times + " texts", x.load(), 1);
+            CHECK.same("as if loaded into a new object", Snapshot.of(x), Snapshot.of(Check.loaded(poor)));
+            CHECK.same("the line after " + times + " texts", x.setLine(0), 0);
+            CHECK.same("the reviews per proposal after " + times + " texts", x.assignAll(0), 2);
+            x.setScore(0, 0, 30);
+            x.setScore(1, 0, 50);
+            CHECK.same("the limit after " + times + " texts", x.appeal(0, 0), false);
+            CHECK.same("the pool after " + times + " texts", x.poolLeft(0), 5);
         }
     }
 
@@ -413,6 +436,10 @@ public final class TextEdgesTest {
                     CHECK.bad(before + "^,", 1);
                     CHECK.bad(before + " ^panel", 1);
                     CHECK.bad(before + " ^1234567", 1);
+                }
+                if (i > 0 && !mayEnd) {
+                    // A number in a word's place, a word in a number's place.
+                    CHECK.bad(before + (Character.isDigit(tokens[i].charAt(0)) ? " ^topics " : " ^0 ") + "0;", 1);
                 }
                 before.append(i > 0 ? " " : "").append(tokens[i]);
             }
@@ -658,6 +685,24 @@ public final class TextEdgesTest {
         CHECK.bad("^pane 1;", 1);
         CHECK.bad("^panels 1;", 1);
         CHECK.bad("^xpanel 1;", 1);
+
+        for (String word : new String[] {"panel 5;", "reviewer 0 1 2 topics 3;", "proposal 0 1 2 3;", "conflict 0 0;",
+            "reviews 2;", "line 2;", "pool 2;", "limit 2;"}) {
+            CHECK.good(BASE + word);
+            for (int i = 0; i < word.indexOf(' '); i++) {
+                for (char other : new char[] {'x', 'z'}) {
+                    CHECK.bad(BASE + "^" + word.substring(0, i) + other + word.substring(i + 1), 1);
+                }
+            }
+        }
+        for (int i = 0; i < 6; i++) {
+            StringBuilder topics = new StringBuilder("topics");
+            topics.setCharAt(i, 'x');
+            CHECK.bad(BASE + "reviewer 0 1 2 ^" + topics + " 3;", 1);
+            StringBuilder least = new StringBuilder("least ");
+            least.setCharAt(i, 'x');
+            CHECK.bad(BASE + "proposal 0 1 2 3 ^" + least + " 3;", 1);
+        }
 
         CHECK.sentence("THE TEXT: Code 1: a run of more than 6 digits");
         CHECK.bad("panel ^0000000;", 1);
