@@ -222,6 +222,20 @@ public final class RankingEdgesTest {
         panels.setScore(1, 1, 79);
         CHECK.same("by their least scores", panels.tieRound(0, 1), 1);
 
+        CHECK.sentence("26: Returns 0 by the normalized scores, 1 by the least scores, 2 by the numbers of scores of at least"
+                + " 80, 3 by the requested amounts, 4 by their numbers");
+        GrantAllocation rounds = tied(of(2, 2, 1, 2, 2), of(60, 80), of(60, 80), of(60, 80), of(60, 79), of(61, 61));
+        CHECK.same("the numbers", rounds.tieRound(0, 1), 4);
+        CHECK.same("the requested amounts", rounds.tieRound(1, 2), 3);
+        CHECK.same("the numbers of scores of at least 80, before the amounts", rounds.tieRound(2, 3), 2);
+        CHECK.same("the least scores, before the numbers of scores of at least 80", rounds.tieRound(0, 4), 1);
+        GrantAllocation scores = Check.loaded("panel 1;reviewer 0 1 9 topics 0;proposal 0 2 0 1;proposal 0 2 0 2;");
+        Check.score(scores, 0, 0, 80);
+        Check.score(scores, 0, 1, 81);
+        CHECK.same("the normalized scores, before all others", scores.tieRound(0, 1), 0);
+        scores.setScore(0, 0, 81);
+        CHECK.same("the amounts, if all others are equal", scores.tieRound(0, 1), 3);
+
         CHECK.sentence("26: Throws IndexOutOfBoundsException if there is no such proposal");
         GrantAllocation x = full();
         for (int p : NO_PROPOSAL) {

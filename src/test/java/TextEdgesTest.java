@@ -43,6 +43,9 @@ public final class TextEdgesTest {
     // ---- promises 1 to 6
 
     private static void newObject() {
+        CHECK.sentence("The constants: NONE = -1");
+        CHECK.same("NONE", GrantAllocation.NONE, -1);
+
         CHECK.sentence("1: an allocation without panels, reviewers and proposals, with 2 reviews per proposal, funding"
                 + " line 0, an empty pool, appeal limit 20, and an empty text buffer");
         GrantAllocation x = new GrantAllocation();
